@@ -987,10 +987,10 @@ public final class FoundVirtues {
 
         private void sell(int week) {
             int came = week - office.kept + 1;
-            if (came < 0) {
+            int old = came < 0 ? 0 : shelf & arrived[came];
+            if (old == 0) {
                 return;
             }
-            int old = shelf & arrived[came];
             shelf &= ~old;
             sold |= old;
             for (int v = 0; v < MOST; v++) {

@@ -722,6 +722,11 @@ public final class PromisesTest {
         due("as shorts", 129, x.get(1, 1, 2));
         x.sheet(3, 2, 0);
         due("no items", 0, x.write(3));
+        FoundVirtues y = office("llll1", "");
+        y.handing(0, 0);
+        y.sheet(0, 0, 1);
+        y.write(0);
+        due("from WEEK 0 on", 1, y.get(0, 0, 0));
     }
 
     static void counts() {
@@ -774,6 +779,49 @@ public final class PromisesTest {
         due("LIE is in it", 1, y.digest() == z.digest() ? 0 : 1);
     }
 
+    static long h;
+
+    static void mix(long... answers) {
+        for (long a : answers) h = 31 * h + a;
+    }
+
+    /** The digest as the document tells it, from the answers of the other calls. */
+    static long toldDigest(FoundVirtues x) {
+        h = 17;
+        for (int what = 0; what <= 7; what++) mix(x.count(what));
+        mix(x.fault(0), x.fault(1));
+        for (int v = 0; v < x.count(0); v++) {
+            mix(x.virtue(v, 0), x.virtue(v, 1), x.gone(v, 0), x.gone(v, 1), x.fitting(1, v), x.match(v), x.lie(v));
+            mix(x.guess(v, 0), x.guess(v, 1), x.together(v), x.when(v));
+        }
+        for (int c = 0; c < x.count(1); c++) mix(x.claimant(c, 0), x.claimant(c, 1), x.claimant(c, 2), x.fitting(0, c), x.ask(c));
+        for (int week : new int[] {0, 1, 5, 39}) mix(x.behind(week, 0), x.behind(week, 1), x.behind(week, 2));
+        mix(x.empty(), x.sale(), x.saint(), x.match(-2), x.match(-1), x.guard(8), x.shelves(-1), x.shelves(0), x.together(-1));
+        mix(x.weeks(7, 20, 0), x.weeks(7, 20, 1));
+        return h;
+    }
+
+    static void fullDigests() {
+        promise = 37;
+        FoundVirtues x = office("hlll3;llll4;hhhh9;llhh8;llhh0;lhlh2", "????0;l?ll1;ll?h7;hhh?3");
+        x.set(1, 6);
+        int[][] handed = {{0, 1}, {0, 3}, {1, 2}, {1, 0}, {4, 4}, {5, 5}};
+        int[][] claimed = {{0, 1}, {1, 0}, {2, 3}, {5, 2}, {6, 2}, {6, 7}};
+        for (int[] one : handed) x.handing(one[0], one[1]);
+        for (int[] one : claimed) x.claim(one[0], one[1]);
+        due("of a full office", toldDigest(x), x.digest());
+        x.seen(5, 4, 1);
+        due("with SEEN", toldDigest(x), x.digest());
+        x.type(1, 'l');
+        due("with a FAULT", toldDigest(x), x.digest());
+        FoundVirtues y = office("hlll3", "");
+        y.handing(17, 0);
+        due("sold in the 20th WEEK", toldDigest(y), y.digest());
+        y.back(0);
+        y.handing(18, 0);
+        due("sold in the 21st WEEK", toldDigest(y), y.digest());
+    }
+
     static void constants() {
         promise = 0;
         due("NONE", -1, FoundVirtues.NONE);
@@ -805,6 +853,7 @@ public final class PromisesTest {
         writing();
         counts();
         digests();
+        fullDigests();
         System.out.println(asked + " answers, " + wrong + " not as due");
         if (wrong != 0) System.exit(1);
     }
