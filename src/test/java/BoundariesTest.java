@@ -164,6 +164,34 @@ public final class BoundariesTest {
         due("wiped", NONE, wild.fault(1));
     }
 
+    /** At each place of an entry each byte that may come there, behind another one that is undone. */
+    static void undoneAndTypedAnew() {
+        sentence = "the last byte of a text is undone";
+        String[] may = {"lh?x", "lh?x", "lh?x", "lh?x", "09x"};
+        for (int text = 0; text < 2; text++) {
+            for (int place = 0; place < 5; place++) {
+                for (char first : may[place].toCharArray()) {
+                    for (char second : may[place].toCharArray()) retype(text, place, first, second);
+                }
+            }
+        }
+    }
+
+    static void retype(int text, int place, char first, char second) {
+        String before = "hhhh1;" + "hlhl5".substring(0, place);
+        String behind = "hlhl5".substring(place + 1);
+        FoundVirtues x = new FoundVirtues();
+        FoundVirtues y = new FoundVirtues();
+        type(x, text, before + first + behind);
+        for (int n = behind.length(); n >= 0; n--) due("left", before.length() + n, x.undo(text));
+        type(x, text, second + behind);
+        type(y, text, before + second + behind);
+        due(first + " undone for " + second + " at " + place, y.digest(), x.digest());
+        for (int what = 0; what < 3; what++) {
+            due("of the last one", text == 0 ? y.virtue(1, what) : y.claimant(1, what), text == 0 ? x.virtue(1, what) : x.claimant(1, what));
+        }
+    }
+
     static void emptyIsWell() {
         sentence = "an empty one is well";
         FoundVirtues x = new FoundVirtues();
@@ -573,6 +601,16 @@ public final class BoundariesTest {
             due("when " + v, when[v], x.gone(v, 1));
         }
         due("the first that is not", BAD, x.gone(4, 0));
+        FoundVirtues y = office(times(8, "hlhl9"), "");
+        for (int v = 0; v < 8; v++) y.handing(3 * v, v);
+        for (int v = 0; v < 8; v++) due("SOLD, " + v, 3 * v + 2, y.gone(v, 1));
+        FoundVirtues z = office(times(8, "hlhl9"), times(7, "????0") + ";hl??0");
+        for (int v = 0; v < 8; v++) {
+            z.handing(3 * v, v);
+            z.claim(3 * v + 1, 7);
+        }
+        for (int v = 0; v < 8; v++) due("GIVEN, " + v, 3 * v + 1, z.gone(v, 1));
+        for (int v = 0; v < 8; v++) due("to the last one, " + v, 7, z.gone(v, 0));
         due("what 2", BAD, x.gone(0, 2));
         due("what -1", BAD, x.gone(0, -1));
     }
@@ -682,6 +720,8 @@ public final class BoundariesTest {
         due("one VIRTUE: all alike", 0, office("hhhh0", "????0").ask(0));
         due("all of one mark tell nothing", 3, office("lllh0;llll0", "????0").ask(0));
         due("2 of 4 ahead of 1 of 4", 2, office("hlhh0;lhhh0;lhlh0;lhlh0", "????0").ask(0));
+        due("eight of eight", 0, office(times(8, "hhhh0"), "????0").ask(0));
+        due("eight of eight, all but the last said", 3, office(times(8, "hhhh0"), "hhh?0").ask(0));
         due("h or l alike", 0, office("hlll0;lhll0", "????0").ask(0));
         due("only of those it FITS", 2, office("llll0;llhl0;hhhh0;hlhh0;hlhh0", "l???0").ask(0));
         due("four of eight", 2, office(EIGHT.replace('0', '9'), "hh??0").ask(0));
@@ -1005,6 +1045,13 @@ public final class BoundariesTest {
         due("LOTS behind twelve of each", 1, full.weeks(0, 1, 0));
         due("which stay", 24, full.count(4) + full.count(5));
         due("and what comes of them", 0, full.behind(39, 1));
+        // SEED 18: VIRTUE 1 and CLAIMANT 0, who does not FIT it, in WEEKS 0 and 1; CLAIMANT 1 in WEEK 2.
+        FoundVirtues last = office("llll1;llhl2", "llll3;ll??3");
+        for (int n = 0; n < 11; n++) last.claim(39, 0);
+        last.handing(2, 0);
+        last.claim(2, 0);
+        due("up to WEEK 1 none", 0, last.weeks(18, 2, 0));
+        due("in a later WEEK, too, the 12th told comes ahead of the LOT", 2, last.weeks(18, 3, 0));
         FoundVirtues late = office("llll1", "hhhh3;llll3");
         late.handing(5, 0);
         late.claim(5, 1);
@@ -1303,6 +1350,59 @@ public final class BoundariesTest {
         due("with a FAULT", h, x.digest());
     }
 
+    /** From the answers of the other calls, in the order told. */
+    static long toldDigest(FoundVirtues x) {
+        h = 17;
+        for (int what = 0; what <= 7; what++) mix(x.count(what));
+        mix(x.fault(0), x.fault(1));
+        for (int v = 0; v < x.count(0); v++) {
+            mix(x.virtue(v, 0), x.virtue(v, 1), x.gone(v, 0), x.gone(v, 1), x.fitting(1, v), x.match(v), x.lie(v));
+            mix(x.guess(v, 0), x.guess(v, 1), x.together(v), x.when(v));
+        }
+        for (int c = 0; c < x.count(1); c++) mix(x.claimant(c, 0), x.claimant(c, 1), x.claimant(c, 2), x.fitting(0, c), x.ask(c));
+        for (int week : new int[] {0, 1, 5, 39}) mix(x.behind(week, 0), x.behind(week, 1), x.behind(week, 2));
+        mix(x.empty(), x.sale(), x.saint(), x.match(-2), x.match(-1), x.guard(8), x.shelves(-1), x.shelves(0), x.together(-1));
+        mix(x.weeks(7, 20, 0), x.weeks(7, 20, 1));
+        return h;
+    }
+
+    /** Each WEEK of a HANDING and each KEPT, so that a WEEK beside a told one, or 19 or 21 for 20, would show. */
+    static void digestAtItsWeeks() {
+        sentence = "digest: WEEKS 0, 1, 5, 39; guard(8); weeks(7, 20, 0 and 1)";
+        String[] guards = {"llll4;llhl2;lhhl2", "llll4;llhl2;llhl2;lhll1", "llll4;hlll2;hlll1;llhl1", EIGHT};
+        for (String virtues : guards) {
+            for (int week = 0; week < 40; week++) {
+                FoundVirtues x = office(virtues, "hhhh9;ll??3;h?h?0;llll2;lhh?1");
+                x.set(1, week % 16);
+                x.set(2, 1 + week % 9);
+                x.handing(week, 0);
+                x.handing(week / 2, 1);
+                x.claim(week, 1);
+                due("WEEK " + week + " of " + virtues, toldDigest(x), x.digest());
+                FoundVirtues lonely = office("llll4", "hhhh1");
+                lonely.set(2, 1 + week % 9);
+                lonely.handing(week, 0);
+                due("WEEK " + week, toldDigest(lonely), lonely.digest());
+            }
+        }
+        digestAtTheTwentieth();
+    }
+
+    /** By SEED 7 VIRTUE 0 of eight comes in WEEK 19, and only a told CLAIM of CLAIMANT 1 can have it. */
+    static void digestAtTheTwentieth() {
+        for (int week = 19; week <= 20; week++) {
+            FoundVirtues x = office(EIGHT, "hhhh0;llll0");
+            x.claim(week, 1);
+            due("GIVEN in WEEK 19, not in 20", week == 19 ? 1 : 0, x.weeks(7, 20, 0));
+            due("with 21 WEEKS it is", 1, x.weeks(7, 21, 0));
+            due("claimed in WEEK " + week, toldDigest(x), x.digest());
+            FoundVirtues y = office("llll4", "");
+            y.handing(week - 2, 0);
+            due("SOLD in WEEK 19, not in 20", week == 19 ? 1 : 0, y.weeks(7, 20, 1));
+            due("to sell in WEEK " + week, toldDigest(y), y.digest());
+        }
+    }
+
     static void objectsAreApart() {
         sentence = "a new object: no VIRTUES, nobody; all SHEETS are LOST";
         FoundVirtues old = office(EIGHT, EIGHT);
@@ -1330,6 +1430,7 @@ public final class BoundariesTest {
         eightAtMost();
         eachByteAtEachPlace();
         firstFault();
+        undoneAndTypedAnew();
         emptyIsWell();
         notEnded();
         asIfEmpty();
@@ -1384,6 +1485,7 @@ public final class BoundariesTest {
         write();
         counts();
         digestByHand();
+        digestAtItsWeeks();
         objectsAreApart();
     }
 
