@@ -870,6 +870,9 @@ public final class BoundariesTest {
         sentence = "TOGETHER: the most PAIRS, each VIRTUE in one at most, the least row";
         pairs("nothing", new FoundVirtues(), 0);
         pairs("one", office("hlhl0", ""), 0);
+        for (int n = 0; n <= 8; n++) {
+            for (int p = 1; p <= 8; p++) pairs(n + " like ones, wanted by " + p, office(times(n, "hlhl9"), times(p, "????0")), 0);
+        }
         pairs("three", office("llll0;llll0;hlll0", ""), 1, 2, NONE, 0);
         pairs("eight like ones", office(times(8, "hlhl0"), ""), 0);
         pairs("eight", office(EIGHT, ""), 4, 1, 0, 3, 2, 5, 4, 7, 6);
