@@ -914,9 +914,9 @@ public final class BoundariesTest {
 
     static void when() {
         sentence = "WHEN: WEEKS 0 to 19, were it handed in then by one HANDING more";
-        FoundVirtues x = office("hlhl0;llll0", "hlhl0");
-        due("nothing SEEN, nothing told", ALL_WEEKS, x.when(1));
+        due("nothing SEEN, nothing told", ALL_WEEKS, office("hlhl0;llll0", "hlhl0").when(1));
         for (int told = 1; told <= 9; told++) {
+            FoundVirtues x = office("hlhl0;llll0", "hlhl0");
             for (int week : new int[] {0, 1, 18, 19, 20, 26, 27, 39}) {
                 x.set(2, told);
                 x.seen(week, 0, 1);
@@ -929,7 +929,7 @@ public final class BoundariesTest {
                 x.forget();
             }
         }
-        due("no such", BAD, x.when(2));
+        due("no such", BAD, office("hlhl0;llll0", "hlhl0").when(2));
         due("no VIRTUES", BAD, new FoundVirtues().when(0));
     }
 

@@ -27,6 +27,9 @@ public final class LanguageTest {
         "int sheet(int,int,int)", "int lose(int)", "int put(int,int,int,int)", "int get(int,int,int)",
         "int copy(int,int,int,int,int)", "int write(int)", "int count(int)", "long digest()");
 
+    static final Set<String> FACE_NAMES = new TreeSet<>();
+    static final Set<Class<?>> CONSTANTS = Set.of(int.class, long.class, boolean.class, char.class, String.class);
+
     static String signature(Method m) {
         StringBuilder parameters = new StringBuilder();
         for (Class<?> p : m.getParameterTypes()) parameters.append(parameters.length() == 0 ? "" : ",").append(p.getName());
@@ -37,11 +40,10 @@ public final class LanguageTest {
         Class<?> face = FoundVirtues.class;
         if (face.getModifiers() != (Modifier.PUBLIC | Modifier.FINAL)) refuse("the class is not public and final alone");
         Set<String> found = new TreeSet<>();
-        Set<String> names = new TreeSet<>();
         for (Method m : face.getDeclaredMethods()) {
             if (Modifier.isPrivate(m.getModifiers())) continue;
             found.add(signature(m));
-            names.add(m.getName());
+            FACE_NAMES.add(m.getName());
             if (m.getModifiers() != Modifier.PUBLIC) refuse("not just public: " + m);
         }
         if (!found.equals(new TreeSet<>(FACE))) refuse("the face is " + found);
@@ -53,7 +55,7 @@ public final class LanguageTest {
             if (Modifier.isPrivate(f.getModifiers()) == constants.contains(f.getName())) refuse("field " + f);
         }
         for (Method m : face.getDeclaredMethods()) {
-            if (Modifier.isPrivate(m.getModifiers()) && names.contains(m.getName())) refuse("bears a public name: " + m);
+            if (Modifier.isPrivate(m.getModifiers()) && FACE_NAMES.contains(m.getName())) refuse("bears a public name: " + m);
         }
     }
 
@@ -74,9 +76,13 @@ public final class LanguageTest {
             boolean fixed = Modifier.isStatic(f.getModifiers());
             if (!fixed) fields++;
             if (fixed && !Modifier.isFinal(f.getModifiers())) refuse("static and not final: " + f);
+            if (fixed && !CONSTANTS.contains(f.getType())) refuse("static, and no constant: " + f);
         }
         if (fields > 20) refuse(fields + " fields in " + one);
-        for (Method m : one.getDeclaredMethods()) if (m.getParameterCount() > 7) refuse("parameters: " + m);
+        for (Method m : one.getDeclaredMethods()) {
+            if (m.getParameterCount() > 7) refuse("parameters: " + m);
+            if (one != FoundVirtues.class && FACE_NAMES.contains(m.getName())) refuse("bears a public name: " + m);
+        }
     }
 
     static String bare(String source) {
